@@ -51,14 +51,33 @@ public final class ModuleHouse {
     private static final int EXPORTED_GLOBAL = 3;
 
     /* Instructions that are asked for by name in more than one place. */
+    private static final int TRAP = 0x00;
     private static final int BLOCK = 0x02;
     private static final int LOOP = 0x03;
     private static final int IF = 0x04;
     private static final int ELSE = 0x05;
     private static final int END = 0x0b;
+    private static final int BRANCH = 0x0c;
+    private static final int BRANCH_IF = 0x0d;
+    private static final int BRANCH_BY_ROW = 0x0e;
+    private static final int RETURN = 0x0f;
+    private static final int CALL = 0x10;
+    private static final int CALL_BY_TABLE = 0x11;
+    private static final int DROP = 0x1a;
+    private static final int CHOOSE = 0x1b;
+    private static final int GET_LOCAL = 0x20;
+    private static final int SET_LOCAL = 0x21;
+    private static final int KEEP_LOCAL = 0x22;
+    private static final int GET_GLOBAL = 0x23;
+    private static final int COUNT_PAGES = 0x3f;
+    private static final int GROW = 0x40;
     private static final int I32_VALUE = 0x41;
     private static final int I64_VALUE = 0x42;
     private static final int NULL_VALUE = 0xd0;
+    private static final int IS_NULL = 0xd1;
+    private static final int SAME_REFERENCE = 0xd3;
+    private static final int NOT_NULL = 0xd4;
+    private static final int BRANCH_ON_NULL = 0xd5;
     private static final int OBJECT_PREFIX = 0xfb;
 
     /*
@@ -72,6 +91,8 @@ public final class ModuleHouse {
     /* Instructions behind the prefix for objects are numbered from here on. */
     private static final int OBJECT = 256;
     private static final int OBJECT_LAST = 30;
+    private static final int FIRST_OF_ARRAY = 6;
+    private static final int FIRST_OF_KIND = 20;
 
     /* Block types: 0 for nothing, a value type's code, or from here on the number of a type. */
     private static final int BLOCK_OF_TYPE = 1024;
@@ -1158,11 +1179,11 @@ public final class ModuleHouse {
 
         private void checkInstruction(int here) {
             int op = code.op[here];
-            if (op < 0x10) {
+            if (op < CALL) {
                 checkControl(op, here);
-            } else if (op < 0x28) {
+            } else if (op < Memory.FIRST_LOAD) {
                 checkSimple(op, code.first[here], here);
-            } else if (op <= 0x40) {
+            } else if (op <= GROW) {
                 checkMemory(op, code.first[here]);
             } else if (op <= I64_VALUE) {
                 push(op == I32_VALUE ? Types.I32 : Types.I64);
@@ -1170,9 +1191,9 @@ public final class ModuleHouse {
                 checkNumeric(op);
             } else if (op < OBJECT) {
                 checkReference(op, here);
-            } else if (op < OBJECT + 6) {
+            } else if (op < OBJECT + FIRST_OF_ARRAY) {
                 checkStructure(op - OBJECT, code.first[here], code.second[here]);
-            } else if (op < OBJECT + 20) {
+            } else if (op < OBJECT + FIRST_OF_KIND) {
                 checkArray(op - OBJECT, code.first[here], code.second[here]);
             } else {
                 checkKind(op - OBJECT, code.first[here]);
@@ -1269,7 +1290,7 @@ public final class ModuleHouse {
 
         private void checkControl(int op, int here) {
             switch (op) {
-                case 0x00 -> lose();
+                case TRAP -> lose();
                 case LOCALS -> declare(code.first[here], (int) code.second[here]);
                 case BLOCK, LOOP -> open(here);
                 case IF -> {
@@ -1278,19 +1299,19 @@ public final class ModuleHouse {
                 }
                 case ELSE -> turn();
                 case END, BODY_END -> close();
-                case 0x0c -> {
+                case BRANCH -> {
                     int block = branch(here);
                     popWay(block, wayCount(block));
                     lose();
                 }
-                case 0x0d -> {
+                case BRANCH_IF -> {
                     pop(Types.I32);
                     int block = branch(here);
                     popWay(block, wayCount(block));
                     pushWay(block, wayCount(block));
                 }
-                case 0x0e -> checkWays(code.first[here], (int) code.second[here]);
-                case 0x0f -> {
+                case BRANCH_BY_ROW -> checkWays(code.first[here], (int) code.second[here]);
+                case RETURN -> {
                     popWay(opened[0], wayCount(opened[0]));
                     lose();
                 }
@@ -1398,29 +1419,30 @@ public final class ModuleHouse {
 
         private void checkSimple(int op, int number, int here) {
             switch (op) {
-                case 0x10 -> {
+                case CALL -> {
                     need(number < module.functions.count);
                     checkCall(module.functions.kind[number]);
                 }
-                case 0x11 -> {
+                case CALL_BY_TABLE -> {
                     need(types.is(number, Types.FUNCTION) && module.tables.count == 1 && code.second[here] == 0);
                     pop(Types.I32);
                     checkCall(number);
                 }
-                case 0x1a -> pop();
-                case 0x1b -> checkChoice();
-                case 0x20, 0x21, 0x22 -> {
+                case DROP -> pop();
+                case CHOOSE -> checkChoice();
+                case GET_LOCAL, SET_LOCAL, KEEP_LOCAL -> {
                     need(number < locals);
-                    checkVariable(op - 0x20, local[number]);
+                    checkVariable(op - GET_LOCAL, local[number]);
                 }
                 default -> {
                     need(number < module.globals.count);
-                    need(op == 0x23 || module.globals.first[number] == 1);
-                    checkVariable(op - 0x23, module.globals.kind[number]);
+                    need(op == GET_GLOBAL || module.globals.first[number] == 1);
+                    checkVariable(op - GET_GLOBAL, module.globals.kind[number]);
                 }
             }
         }
 
+        /* Way 0: the value comes; 1: it is set; 2: it is set and stays. */
         private void checkVariable(int way, int type) {
             if (way > 0) {
                 pop(type);
@@ -1450,8 +1472,8 @@ public final class ModuleHouse {
 
         private void checkMemory(int op, int align) {
             need(module.memories.count == 1);
-            if (op >= 0x3f) {
-                if (op == 0x40) {
+            if (op >= COUNT_PAGES) {
+                if (op == GROW) {
                     pop(Types.I32);
                 }
                 push(Types.I32);
@@ -1501,13 +1523,13 @@ public final class ModuleHouse {
                     need(types.knowsTarget(code.first[here]));
                     push(Types.reference(code.first[here], true));
                 }
-                case 0xd1 -> {
+                case IS_NULL -> {
                     popReference();
                     push(Types.I32);
                 }
-                case 0xd3 -> compute(2, ANY_REFERENCE, Types.I32);
-                case 0xd4 -> push(Types.notNull(popReference()));
-                case 0xd5 -> {
+                case SAME_REFERENCE -> compute(2, ANY_REFERENCE, Types.I32);
+                case NOT_NULL -> push(Types.notNull(popReference()));
+                case BRANCH_ON_NULL -> {
                     int type = Types.notNull(popReference());
                     int block = branch(here);
                     popWay(block, wayCount(block));
@@ -1692,14 +1714,16 @@ public final class ModuleHouse {
         private final boolean[] lives = new boolean[ROOM + 1];
         private final int[] free = new int[ROOM];
         private final int[] found = new int[ROOM];
-        private int freeCount;
-        private int foundCount;
+        private int freeCount = 0;
+        private int foundCount = 0;
 
         void clear() {
             cells.top = 0;
-            freeCount = ROOM;
-            for (int k = 0; k < ROOM; k++) {
-                free[k] = ROOM - k;
+            if (freeCount < ROOM) {
+                freeCount = ROOM;
+                for (int k = 0; k < ROOM; k++) {
+                    free[k] = ROOM - k;
+                }
             }
         }
 
@@ -1724,9 +1748,6 @@ public final class ModuleHouse {
 
         /* Lets go what does not live, and tells what the rest takes. */
         int collect(Values stack, Values globals) {
-            for (int k = 0; k <= ROOM; k++) {
-                lives[k] = false;
-            }
             foundCount = 0;
             find(stack, 0, stack.top);
             find(globals, 0, globals.top);
@@ -1748,6 +1769,7 @@ public final class ModuleHouse {
             }
         }
 
+        /* The marks of what lives are taken away again on the way. */
         private void moveTogether() {
             int to = 0;
             int from = 0;
@@ -1755,6 +1777,7 @@ public final class ModuleHouse {
                 int handle = (int) cells.value[from];
                 int taken = 1 + size[handle];
                 if (lives[handle]) {
+                    lives[handle] = false;
                     start[handle] = to;
                     System.arraycopy(cells.value, from, cells.value, to, taken);
                     System.arraycopy(cells.refers, from, cells.refers, to, taken);
@@ -2013,11 +2036,11 @@ public final class ModuleHouse {
         }
 
         private void step(int op, int here) {
-            if (op < 0x10) {
+            if (op < CALL) {
                 doControl(op, here);
-            } else if (op < 0x28) {
+            } else if (op < Memory.FIRST_LOAD) {
                 doSimple(op, code.first[here]);
-            } else if (op <= 0x40) {
+            } else if (op <= GROW) {
                 doMemory(op, code.second[here]);
             } else if (op <= I64_VALUE) {
                 values.push(code.second[here]);
@@ -2025,9 +2048,9 @@ public final class ModuleHouse {
                 doNumeric(op);
             } else if (op < OBJECT) {
                 doReference(op, here);
-            } else if (op < OBJECT + 6) {
+            } else if (op < OBJECT + FIRST_OF_ARRAY) {
                 doStructure(op - OBJECT, code.first[here], (int) code.second[here]);
-            } else if (op < OBJECT + 20) {
+            } else if (op < OBJECT + FIRST_OF_KIND) {
                 doArray(op - OBJECT, code.first[here], (int) code.second[here]);
             } else {
                 doKind(op - OBJECT, code.first[here]);
@@ -2083,7 +2106,7 @@ public final class ModuleHouse {
 
         private void doControl(int op, int here) {
             switch (op) {
-                case 0x00 -> trap = TRAP_TOLD;
+                case TRAP -> trap = TRAP_TOLD;
                 case LOCALS -> values.pushZeros(code.first[here]);
                 case IF -> {
                     if (values.pop() == 0) {
@@ -2091,14 +2114,14 @@ public final class ModuleHouse {
                     }
                 }
                 case ELSE -> next = code.mate[here] + 1;
-                case BODY_END, 0x0f -> leave();
-                case 0x0c -> branch(code.mate[here]);
-                case 0x0d -> {
+                case BODY_END, RETURN -> leave();
+                case BRANCH -> branch(code.mate[here]);
+                case BRANCH_IF -> {
                     if (values.pop() != 0) {
                         branch(code.mate[here]);
                     }
                 }
-                case 0x0e -> {
+                case BRANCH_BY_ROW -> {
                     long way = Math.min(values.pop() & 0xffffffffL, code.second[here]);
                     branch(code.numbers[code.first[here] + (int) way]);
                 }
@@ -2109,10 +2132,10 @@ public final class ModuleHouse {
 
         private void doSimple(int op, int number) {
             switch (op) {
-                case 0x10 -> enter(number);
-                case 0x11 -> enterByTable(number);
-                case 0x1a -> values.pop();
-                case 0x1b -> {
+                case CALL -> enter(number);
+                case CALL_BY_TABLE -> enterByTable(number);
+                case DROP -> values.pop();
+                case CHOOSE -> {
                     long which = values.pop();
                     long other = values.pop();
                     if (which == 0) {
@@ -2120,12 +2143,12 @@ public final class ModuleHouse {
                         values.push(other);
                     }
                 }
-                case 0x20 -> values.pushFrom(values, base[depth - 1] + number);
-                case 0x21, 0x22 -> {
+                case GET_LOCAL -> values.pushFrom(values, base[depth - 1] + number);
+                case SET_LOCAL, KEEP_LOCAL -> {
                     values.copy(values, values.top - 1, base[depth - 1] + number);
-                    values.top -= 0x22 - op;
+                    values.top -= op == SET_LOCAL ? 1 : 0;
                 }
-                case 0x23 -> values.pushFrom(globals, number);
+                case GET_GLOBAL -> values.pushFrom(globals, number);
                 default -> {
                     globals.copy(values, values.top - 1, number);
                     values.top--;
@@ -2150,11 +2173,11 @@ public final class ModuleHouse {
         }
 
         private void doMemory(int op, long offset) {
-            if (op == 0x3f) {
+            if (op == COUNT_PAGES) {
                 values.push(memory.pages);
                 return;
             }
-            if (op == 0x40) {
+            if (op == GROW) {
                 values.push(memory.grow(values.pop() & 0xffffffffL));
                 return;
             }
@@ -2224,14 +2247,14 @@ public final class ModuleHouse {
         private void doReference(int op, int here) {
             switch (op) {
                 case NULL_VALUE -> values.pushReference(0);
-                case 0xd1 -> values.pushTruth(values.pop() == 0);
-                case 0xd3 -> values.pushTruth(values.pop() == values.pop());
-                case 0xd4 -> {
+                case IS_NULL -> values.pushTruth(values.pop() == 0);
+                case SAME_REFERENCE -> values.pushTruth(values.pop() == values.pop());
+                case NOT_NULL -> {
                     if (values.value[values.top - 1] == 0) {
                         trap = TRAP_NULL;
                     }
                 }
-                case 0xd5 -> {
+                case BRANCH_ON_NULL -> {
                     if (values.value[values.top - 1] == 0) {
                         values.pop();
                         branch(code.mate[here]);
