@@ -147,10 +147,15 @@ public final class InstructionTest {
     private static void conversions() {
         due("lowest 32", run(I, Support.i64(0x1_8000_0000L), 0xa7), MIN);
         due("signed", run(L, Support.i32(-1), 0xac), -1);
+        due("signed as a whole", run(L, Support.i32(0x12345678), 0xac), 0x12345678);
         due("unsigned", run(L, Support.i32(-1), 0xad), 0xffffffffL);
         due("8 bits", run(I, Support.i32(0x1ff80), 0xc0), -128);
         due("8 bits above", run(I, Support.i32(0x7f), 0xc0), 127);
         due("16 bits", run(I, Support.i32(0x18000), 0xc1), -32768);
+        due("16 bits without others", run(I, Support.i32(0x8000), 0xc1), -32768);
+        due("16 bits above 0", run(I, Support.i32(0x14000), 0xc1), 0x4000);
+        due("i64 16 bits without others", run(L, Support.i64(0x8000), 0xc3), -32768);
+        due("i64 8 bits without others", run(L, Support.i64(0x80), 0xc2), -128);
         due("i64 8 bits", run(L, Support.i64(0xff80L), 0xc2), -128);
         due("i64 16 bits", run(L, Support.i64(0xfff8000L), 0xc3), -32768);
         due("i64 32 bits", run(L, Support.i64(0x180000000L), 0xc4), MIN);
@@ -217,6 +222,11 @@ public final class InstructionTest {
         mod.fnWith(none, b(1, 1, I32), 0x41, 30, 0x41, 5, 0x42, 6, 0x10, 1, 0x21, 0, 0xa7, 0x20, 0, 0x6b, 0x6a);
         mod.fnWith(two, b(1, 2, I32), 0x20, 1, 0x20, 0, 0x20, 2, 0x6a);
         due("30 + (6 - 5)", mod.house().value(), 31);
+        Support.Mod after = new Support.Mod();
+        int one = after.type(0x60, 1, I32, 1, I32);
+        after.fnWith(one, b(1, 3, I64), 0x41, 7, 0x02, I32, 0x41, 9, 0x20, 0, 0x10, 1, 0x41, 1, 0x0d, 0, 0x6a, 0x0b, 0x6a);
+        after.fnWith(one, b(1, 30, I64), 0x20, 0, 0x0f);
+        due("a way out behind a call", after.house().value(5), 12);
         Support.Mod facts = new Support.Mod();
         int type = facts.type(0x60, 1, I64, 1, I64);
         facts.fn(type, 0x20, 0, 0x50, 0x04, I64, 0x42, 1, 0x05, 0x20, 0, 0x20, 0, 0x42, 1, 0x7d, 0x10, 0, 0x7e, 0x0b);
@@ -355,10 +365,23 @@ public final class InstructionTest {
         return mod;
     }
 
-    private static long object(Object... code) {
+    private static long objectAlone(Object... code) {
         Support.Mod mod = objects();
         mod.fnWith(mod.type(0x60, 0, 1, I32), b(5, 1, I32, 1, 0x63, 0, 1, 0x63, 2, 1, 0x63, 4, 1, 0x63, 5), code);
         return mod.house().value();
+    }
+
+    /** Runs the code alone, and with a value below it, which must still be there then. */
+    private static long object(Object... code) {
+        long alone = objectAlone(code);
+        boolean leaves = false;
+        for (int op : b(code)) {
+            leaves |= op == 0x0f;
+        }
+        if (alone < TRAP && !leaves) {
+            due("with 100 below", objectAlone(Support.i32(100), b(code), 0x6a), (int) (alone + 100));
+        }
+        return alone;
     }
 
     private static void references() {
@@ -382,6 +405,7 @@ public final class InstructionTest {
         due("on null", object(0x02, I32, 0x41, 7, 0xd0, 0, 0xd5, 0, 0x1a, 0x1a, 0x41, 9, 0x0b), 7);
         due("on null, of an object", object(0x02, I32, 0x41, 7, 0xfb, 1, 0, 0xd5, 0, 0xd1, 0x1a, 0x1a, 0x41, 9, 0x0b), 9);
         due("on not null", object(0x02, 0x64, 0x6d, 0x41, 7, 0xfb, 28, 0xd6, 0, 0x41, 9, 0x0f, 0x0b, 0xfb, 22, 0x6c, 0xfb, 29), 7);
+        due("null goes", object(0x41, 40, 0x02, 0x64, 0x6d, 0x41, 2, 0xd0, 0x6d, 0xd6, 0, 0x0f, 0x0b, 0x00), 2);
         due("on not null, of null", object(0x02, 0x64, 0x6d, 0xd0, 0x6d, 0xd6, 0, 0x41, 9, 0x0f, 0x0b, 0x1a, 0x41, 8), 9);
         Support.Mod mod = objects();
         int pair = mod.type(0x60, 0, 2, I32, 0x6d);
@@ -404,6 +428,9 @@ public final class InstructionTest {
         due("8 bits unsigned", object(packed, 0xfb, 4, 4, 0), 0x81);
         due("16 bits signed", object(packed, 0xfb, 3, 4, 1), (short) 0xf682);
         due("16 bits unsigned", object(packed, 0xfb, 4, 4, 1), 0xf682);
+        int[] above = b(Support.i32(0x141), Support.i32(0x14001), 0x42, 0, 0xfb, 0, 4);
+        due("8 bits above 0", object(above, 0xfb, 3, 4, 0), 0x41);
+        due("16 bits above 0", object(above, 0xfb, 3, 4, 1), 0x4001);
         due("8 bits set", object(0xfb, 1, 4, 0x22, 3, Support.i32(-1), 0xfb, 5, 4, 0, 0x20, 3, 0xfb, 4, 4, 0), 255);
         due("only them", object(0xfb, 1, 4, 0x22, 3, Support.i32(-1), 0xfb, 5, 4, 0, 0x20, 3, 0xfb, 4, 4, 1), 0);
         due("an i64", object(0x41, 0, 0x41, 0, Support.i64(LEAST), 0xfb, 0, 4, 0xfb, 2, 4, 2, 0x50), 0);

@@ -84,6 +84,8 @@ public final class ReadTest {
         due("U of 2^32", loaded(section(8, 0x80, 0x80, 0x80, 0x80, 0x10)), -1);
         due("U of 2^32 - 1 is good, but not there", loaded(section(8, 0xff, 0xff, 0xff, 0xff, 0x0f)), -2);
         due("U cut short", loaded(section(8, 0x80)), -1);
+        due("U of 127", loaded(section(5, 1, 0, 1), section(11, 1, 0, 0x41, 0, 0x0b, 0x7f, Support.many(127, 9))), 0);
+        due("U of 127 in two bytes", loaded(section(5, 1, 0, 1), section(11, 1, 0, 0x41, 0, 0x0b, 0xff, 0, Support.many(127, 9))), 0);
         due("U cut short by the section's end", loaded(section(8, 0x80), section(9, 0)), -1);
         int[][] good32 = {b(0x80, 0x80, 0x80, 0x80, 0x78), b(0xff, 0xff, 0xff, 0xff, 0x07), b(0xff, 0xff, 0xff, 0xff, 0x7f), b(0x80, 0x00)};
         int[][] bad32 = {b(0x80, 0x80, 0x80, 0x80, 0x70), b(0xff, 0xff, 0xff, 0xff, 0x0f), b(0xff, 0xff, 0xff, 0xff, 0xff, 0x7f), b(0x80, 0x80, 0x80, 0x80, 0x08)};
@@ -153,6 +155,11 @@ public final class ReadTest {
         due("16 parameters and results", type(0x60, 16, Support.many(16, 0x7f), 16, Support.many(16, 0x7e)), 0);
         due("17 parameters", type(0x60, 17, Support.many(17, 0x7f), 0), -2);
         due("17 results", type(0x60, 0, 17, Support.many(17, 0x7f)), -2);
+        int[] full = b(0x60, 16, Support.many(16, 0x7f), 16, Support.many(16, 0x7e));
+        due("64 full types", loaded(section(1, 64, Support.many(64, full))), 0);
+        int[] over = b(0x60, 18, Support.many(18, 0x7f), 18, Support.many(18, 0x7e));
+        due("70 types too long", loaded(section(1, 70, Support.many(70, over))), -2);
+        due("70 structures too long", loaded(section(1, 70, Support.many(70, 0x5f, 30, Support.many(30, 0x78, 1)))), -2);
         due("a row that goes on behind the end", loaded(section(1, 0xff, 0xff, 0xff, 0xff, 0x0f, 0x5f, 0)), -1);
     }
 
@@ -270,6 +277,11 @@ public final class ReadTest {
         for (int mark : new int[] {1, 2, 4, 0x80}) {
             due("an element that begins with " + mark, element(1, mark, 0x41, 0, 0x0b, 1, 0), -1);
         }
+        due("a place that is no S32", element(1, 0, 0x41, 0x80, 0x80, 0x80, 0x80, 0x08, 0x0b, 0), -1);
+        due("the greatest place", element(1, 0, 0x41, 0xff, 0xff, 0xff, 0xff, 0x07, 0x0b, 0), 5);
+        due("the least place", element(1, 0, 0x41, 0x80, 0x80, 0x80, 0x80, 0x78, 0x0b, 0), 5);
+        Support.Mod ways = Support.oneWith(new Support.Mod().table(0, 2), NOTHING, NOTHING, 0x02, 0x40, 0x41, 0, 0x0e, 1, 1, 1, 0x0b);
+        due("an element, and ways with greater numbers", ways.element(0, 0).loaded(), 0);
         due("an i64 place", element(1, 0, 0x42, 0, 0x0b, 1, 0), -1);
         due("no end", element(1, 0, 0x41, 0, 1, 0), -1);
         due("an element without a table", loaded(section(9, 1, 0, 0x41, 0, 0x0b, 0)), -2);
@@ -298,6 +310,16 @@ public final class ReadTest {
         due("a body shorter than it says", code(1, 1, 0, 0x0b), -1);
         due("an instruction over the end", code(1, 3, 0, 0x41, 0x80, 0x0b), -1);
         due("no bytes at all", code(1, 0), -1);
+        int[] two = b(section(1, 1, 0x60, 0, 0), section(3, 2, 0, 0));
+        due("two bodies", loaded(two, section(10, 2, 2, 0, 0x0b, 2, 0, 0x0b)), 0);
+        due("a body that goes into the next", loaded(two, section(10, 2, 3, 0, 0x0b, 2, 0, 0x0b)), -1);
+        due("a body that goes over the next", loaded(two, section(10, 2, 5, 0, 0x0b, 2, 0, 0x0b)), -1);
+        for (int[] number : new int[][] {b(0x80, 0x80, 0x80, 0x80, 0x70), b(0xff, 0xff, 0xff, 0xff, 0x0f), b(0x80, 0x80, 0x80, 0x80, 0x08)}) {
+            due("no S32 in code", body(0x41, number, 0x1a), -1);
+        }
+        due("the least S32 in code", body(0x41, 0x80, 0x80, 0x80, 0x80, 0x78, 0x1a), 0);
+        due("the least S64 in code", body(0x42, Support.many(9, 0x80), 0x7f, 0x1a), 0);
+        due("no S64 in code", body(0x42, Support.many(9, 0x80), 0x7e, 0x1a), -1);
         due("a block left open", body(0x02, 0x40), -1);
     }
 
@@ -331,6 +353,9 @@ public final class ReadTest {
         due("a block type by number", body(0x02, 0, 0x0b), 0);
         due("a block type by number in two bytes", body(0x02, 0x80, 0x00, 0x0b), 0);
         due("a block type that is not there", body(0x02, 1, 0x0b), -2);
+        due("a block type of 2^31 is not there", body(0x02, 0x80, 0x80, 0x80, 0x80, 0x08, 0x0b), -2);
+        due("a block type of 2^32 - 1 is not there", body(0x02, 0xff, 0xff, 0xff, 0xff, 0x0f, 0x0b), -2);
+        due("a block type of 2^32", body(0x02, 0x80, 0x80, 0x80, 0x80, 0x10, 0x0b), -1);
         due("a value type that is not there", body(0x02, 0x63, 1, 0x00, 0x0b, 0x1a), -2);
         due("a value type that is a function's", body(0x02, 0x63, 0, 0x00, 0x0b, 0x1a), -2);
         due("a block type that is a structure",

@@ -107,6 +107,9 @@ public final class RoomTest {
         lives("a local and the stack", 0, 500, array(499), 0x22, 1, array(499), array(499), 0x1a, 0x1a, array(499), 0x1a, 0x24, 0);
         lives("a value below a block", 11, 0, array(1000), 0x02, 0x40, array(1000), 0x1a, 0x0b, 0x1a);
         lives("locals are gone behind a call", 0, 0, array(1500), 0x21, 1);
+        Support.Mod first = mod(NOTHING);
+        first.fnWith(first.type(0x60, 0, 0), b(1, 1, 0x6d), array(1500), 0x21, 0, array(1999), 0x24, 0);
+        due("the very first local", first.house().call('b', 9), 11);
         Support.House house = mod(array(1500), 0x21, 1).house();
         for (int k = 0; k < 3; k++) {
             due("call again", house.call('a', 9, 0), 0);
@@ -161,6 +164,10 @@ public final class RoomTest {
         house = mod(waste).house();
         due("much waste", house.call('a', 5000, 3000), 0);
         due("nothing lives", house.x.look(7), 0);
+        int[] least = b(0x03, 0x40, 0xfb, 1, 3, 0x21, 1, 0x20, 0, 0x41, 1, 0x6b, 0x22, 0, 0x0d, 0, 0x0b, 0x20, 1, 0x24, 0);
+        house = mod(least).house();
+        due("many of the least", house.call('a', 9000, 8000), 0);
+        due("the last one lives", house.x.look(7), 1);
     }
 
     private static void smallOnesTakeNone() {
