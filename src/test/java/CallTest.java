@@ -200,11 +200,12 @@ public final class CallTest {
         mod.global(I, 1, Support.i32(Integer.MIN_VALUE));
         mod.global(b(I64), 1, Support.i64(Long.MAX_VALUE));
         mod.global(b(0x6d), 1, 0xd0, 0x6d);
+        mod.global(b(I64), 0, 0x42, 5);
         mod.fn(mod.type(0x60, 0, 0), 0x41, 0, 0xfb, 28, 0x24, 2);
         mod.fn(mod.type(0x60, 0, 0), 0xfb, 1, 0, 0x24, 2);
-        mod.export('p', 1, 0).export('q', 2, 0).export('x', 3, 1).export('y', 3, 0).export('z', 3, 2);
+        mod.export('p', 1, 0).export('q', 2, 0).export('x', 3, 1).export('y', 3, 0).export('z', 3, 2).export('w', 3, 3);
         Support.House house = mod.house();
-        String[] want = {Support.NO_SUCH, Support.NO_SUCH, Support.NO_SUCH, Support.NO_SUCH, Long.toString(Long.MAX_VALUE), Integer.toString(Integer.MIN_VALUE), "0", Support.NO_SUCH};
+        String[] want = {Support.NO_SUCH, Support.NO_SUCH, Support.NO_SUCH, Support.NO_SUCH, Long.toString(Long.MAX_VALUE), Integer.toString(Integer.MIN_VALUE), "0", "5", Support.NO_SUCH};
         for (int k = 0; k < want.length; k++) {
             int export = k;
             Support.dueText("global " + k, Support.said(() -> house.x.global(export)), want[k]);

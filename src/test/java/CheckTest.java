@@ -269,6 +269,8 @@ public final class CheckTest {
         bad(I, 0x41, 0, 0x11, 5, 0);
         bad(I, 0x00, 0x11, 0, 0);
         bad(I, 0x00, 0x11, 99, 0);
+        Support.due("a function that is not there", Support.one(NOTHING, NOTHING, 0x10, 1).loaded(), -2);
+        Support.due("far from there", Support.one(NOTHING, NOTHING, 0x10, 0xff, 0xff, 0xff, 0xff, 0x0f).loaded(), -2);
         Support.due("without a table", Support.one(NOTHING, NOTHING, 0x00, 0x11, 0, 0).loaded(), -2);
     }
 
@@ -321,6 +323,8 @@ public final class CheckTest {
             bad(wrong, values, op);
             bad(to, single ? other : b(value, other), op);
             bad(to, single ? NOTHING : value, op);
+            bad(NOTHING, single ? other : b(value, other), op, 0x1a);
+            bad(NOTHING, single ? NOTHING : value, op, 0x1a);
             bad(to, single ? b(0xd0, 0x6d) : b(0xd0, 0x6d, value), op);
         }
     }
@@ -464,6 +468,9 @@ public final class CheckTest {
         bad(NOTHING, 0x20, 5, 0x41, 0, 0x41, 0, 0xfb, 16, 1);
         bad(NOTHING, 0xd0, 2, 0x41, 0, 0x41, 0, 0xfb, 28, 0x41, 0, 0xfb, 16, 2);
         good(I, 0x20, 5, 0xfb, 15);
+        Support.Mod zero = new Support.Mod();
+        zero.type(0x5e, I32, 1);
+        Support.due("array's type 0", Support.oneWith(zero, NOTHING, I, 0xfb, 8, 0, 0, 0xfb, 15).loaded(), 0);
         good(I, 0xd0, 2, 0xd4, 0xfb, 15);
         bad(I, 0x20, 4, 0xfb, 15);
         bad(I, 0x20, 2, 0xfb, 15);

@@ -316,6 +316,10 @@ public final class InstructionTest {
                 int want = n < width[k] ? 0x88 - 0x11 * n : 0;
                 due("byte " + n + " of store " + ops[k], house.x.at(place + n), want);
             }
+            due("store of -1", house.call('a' + k, 1, 512 + place, -1), 0);
+            due("its last byte", house.x.at(512 + place + width[k] - 1), 255);
+            due("not beside it", house.x.at(512 + place + width[k]), 0);
+            due("store at the end", house.call('a' + k, 1, 4096 - width[k], 0), 0);
             due("store over the end", house.call('a' + k, 1, 4097 - width[k], -1), 2);
             due("and nothing of it is there", house.x.at(4095), 0);
         }

@@ -140,6 +140,10 @@ public final class ReadTest {
         due("a target greater than itself", loaded(section(1, 2, 0x5f, 1, 0x63, 1, 0, 0x5f, 0)), -2);
         due("a target that is a function's type", loaded(section(1, 2, 0x60, 0, 0, 0x5f, 1, 0x63, 0, 0)), -2);
         due("a function's type with itself", type(0x60, 1, 0x63, 0, 0), -2);
+        due("a function's type with itself as a result", type(0x60, 0, 1, 0x63, 0), -2);
+        due("a result that comes later", loaded(section(1, 2, 0x60, 0, 1, 0x63, 1, 0x5f, 0)), -2);
+        due("a second result that comes later", loaded(section(1, 2, 0x60, 0, 2, 0x7f, 0x64, 1, 0x5f, 0)), -2);
+        due("a parameter that comes later", loaded(section(1, 2, 0x60, 1, 0x63, 1, 0, 0x5f, 0)), -2);
         due("a function's type with a structure before", loaded(section(1, 2, 0x5f, 0, 0x60, 1, 0x63, 0, 1, 0x64, 0)), 0);
         due("a number that is not there", type(0x5e, 0x63, 1, 0), -2);
         due("cut within", type(0x5f, 2, 0x7f, 0), -1);
