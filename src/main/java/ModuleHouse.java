@@ -721,7 +721,7 @@ public final class ModuleHouse {
 
         /* A U that is a number of something, or counts it: none can be as great as an int. */
         private int readNumber() {
-            return (int) Math.min(readUnsigned(), Integer.MAX_VALUE);
+            return (int) Math.min(readUnsigned(), Numbers.MOST_32);
         }
 
         /* How many bytes follow, which must be there. */
@@ -868,7 +868,7 @@ public final class ModuleHouse {
         private void readLimits(Row row, int place) {
             int told = readFlag();
             row.first[place] = readNumber();
-            row.second[place] = told == 1 ? readNumber() : Integer.MAX_VALUE;
+            row.second[place] = told == 1 ? readNumber() : Numbers.MOST_32;
         }
 
         private void readGlobals() {
@@ -1854,8 +1854,12 @@ public final class ModuleHouse {
         }
     }
 
-    /** What the instructions on numbers answer. */
+    /** What the instructions on numbers answer, with no more of the library than rule 4 names. */
     private static final class Numbers {
+        static final int LEAST_32 = 0x80000000;
+        static final int MOST_32 = 0x7fffffff;
+        static final long LEAST_64 = 0x8000000000000000L;
+        private static final long BITS_32 = 0xffffffffL;
         private static final int QUOTIENT = 3;
         private static final int REST_UNSIGNED = 6;
 
@@ -1865,14 +1869,19 @@ public final class ModuleHouse {
                 case 0 -> a == b;
                 case 1 -> a != b;
                 case 2 -> a < b;
-                case 3 -> Long.compareUnsigned(a, b) < 0;
+                case 3 -> isBelow(a, b);
                 case 4 -> a > b;
-                case 5 -> Long.compareUnsigned(a, b) > 0;
+                case 5 -> isBelow(b, a);
                 case 6 -> a <= b;
-                case 7 -> Long.compareUnsigned(a, b) <= 0;
+                case 7 -> !isBelow(b, a);
                 case 8 -> a >= b;
-                default -> Long.compareUnsigned(a, b) >= 0;
+                default -> !isBelow(a, b);
             };
+        }
+
+        /* Unsigned: the least number added turns the order round where the sign is another. */
+        private static boolean isBelow(long a, long b) {
+            return a + LEAST_64 < b + LEAST_64;
         }
 
         static int trapOf(int operation, long a, long b, long least) {
@@ -1887,18 +1896,27 @@ public final class ModuleHouse {
 
         static int counted32(int op, int a) {
             return switch (op) {
-                case 0x67 -> Integer.numberOfLeadingZeros(a);
-                case 0x68 -> Integer.numberOfTrailingZeros(a);
+                case 0x67 -> leading(a & BITS_32) - 32;
+                case 0x68 -> Integer.bitCount(a - 1 & ~a);
                 default -> Integer.bitCount(a);
             };
         }
 
         static int counted64(int op, long a) {
             return switch (op) {
-                case 0x79 -> Long.numberOfLeadingZeros(a);
-                case 0x7a -> Long.numberOfTrailingZeros(a);
+                case 0x79 -> leading(a);
+                case 0x7a -> Long.bitCount(a - 1 & ~a);
                 default -> Long.bitCount(a);
             };
+        }
+
+        /* The highest bit is spread over all those below it: what is still 0 lies above. */
+        private static int leading(long a) {
+            long spread = a;
+            for (int by = 1; by <= 32; by *= 2) {
+                spread |= spread >>> by;
+            }
+            return Long.bitCount(~spread);
         }
 
         /* No divisor is 0 here: trapOf was asked. */
@@ -1908,17 +1926,17 @@ public final class ModuleHouse {
                 case 1 -> a - b;
                 case 2 -> a * b;
                 case 3 -> a / b;
-                case 4 -> Integer.divideUnsigned(a, b);
+                case 4 -> (int) ((a & BITS_32) / (b & BITS_32));
                 case 5 -> a % b;
-                case 6 -> Integer.remainderUnsigned(a, b);
+                case 6 -> (int) ((a & BITS_32) % (b & BITS_32));
                 case 7 -> a & b;
                 case 8 -> a | b;
                 case 9 -> a ^ b;
                 case 10 -> a << b;
                 case 11 -> a >> b;
                 case 12 -> a >>> b;
-                case 13 -> Integer.rotateLeft(a, b);
-                default -> Integer.rotateRight(a, b);
+                case 13 -> a << b | a >>> -b;
+                default -> a >>> b | a << -b;
             };
         }
 
@@ -1928,18 +1946,30 @@ public final class ModuleHouse {
                 case 1 -> a - b;
                 case 2 -> a * b;
                 case 3 -> a / b;
-                case 4 -> Long.divideUnsigned(a, b);
+                case 4 -> quotient(a, b);
                 case 5 -> a % b;
-                case 6 -> Long.remainderUnsigned(a, b);
+                case 6 -> a - quotient(a, b) * b;
                 case 7 -> a & b;
                 case 8 -> a | b;
                 case 9 -> a ^ b;
                 case 10 -> a << b;
                 case 11 -> a >> b;
                 case 12 -> a >>> b;
-                case 13 -> Long.rotateLeft(a, (int) b);
-                default -> Long.rotateRight(a, (int) b);
+                case 13 -> a << b | a >>> -b;
+                default -> a >>> b | a << -b;
             };
+        }
+
+        /*
+         * Unsigned, of a divisor that is not 0. One with the highest bit goes in at most once. By
+         * another one half of a is divided, which has no sign; twice that is at most 1 too little.
+         */
+        private static long quotient(long a, long b) {
+            if (b < 0) {
+                return isBelow(a, b) ? 0 : 1;
+            }
+            long about = (a >>> 1) / b << 1;
+            return isBelow(a - about * b, b) ? about : about + 1;
         }
 
         /* The lowest bits with their sign. */
@@ -2218,7 +2248,7 @@ public final class ModuleHouse {
         private void compute32(int operation) {
             int b = (int) values.pop();
             int a = (int) values.pop();
-            trap = Numbers.trapOf(operation, a, b, Integer.MIN_VALUE);
+            trap = Numbers.trapOf(operation, a, b, Numbers.LEAST_32);
             if (trap == 0) {
                 values.push(Numbers.answer32(operation, a, b));
             }
@@ -2227,7 +2257,7 @@ public final class ModuleHouse {
         private void compute64(int operation) {
             long b = values.pop();
             long a = values.pop();
-            trap = Numbers.trapOf(operation, a, b, Long.MIN_VALUE);
+            trap = Numbers.trapOf(operation, a, b, Numbers.LEAST_64);
             if (trap == 0) {
                 values.push(Numbers.answer64(operation, a, b));
             }
@@ -2405,13 +2435,13 @@ public final class ModuleHouse {
             int given = (int) values.value[values.top - 1];
             if (op == 28) {
                 values.top--;
-                values.pushReference(given | Integer.MIN_VALUE);
+                values.pushReference(given | Numbers.LEAST_32);
             } else if (op > 28) {
                 values.top--;
                 if (given == 0) {
                     trap = TRAP_NULL;
                 }
-                values.push(op == 29 ? given << 1 >> 1 : given & Integer.MAX_VALUE);
+                values.push(op == 29 ? given << 1 >> 1 : given & Numbers.MOST_32);
             } else {
                 boolean isThat = given == 0 ? (op & 1) == 1 : isOf(given, target);
                 if (op < 22) {

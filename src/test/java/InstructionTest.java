@@ -1,3 +1,5 @@
+import java.util.Random;
+
 /** Promise 5: what the instructions answer, and their traps 1 to 10. */
 public final class InstructionTest {
     private static final int I32 = Support.I32;
@@ -15,6 +17,7 @@ public final class InstructionTest {
         relations();
         arithmetic32();
         arithmetic64();
+        asTheLibraryDoes();
         conversions();
         control();
         loops();
@@ -95,6 +98,18 @@ public final class InstructionTest {
         two32(0x6f, 7, 0, TRAP + 3);
         two32(0x70, -7, 10, 9);
         two32(0x70, 7, 0, TRAP + 3);
+        two32(0x6e, -1, -2, 1);
+        two32(0x6e, -2, -1, 0);
+        two32(0x6e, -1, MIN, 1);
+        two32(0x6e, MIN, MIN, 1);
+        two32(0x6e, 7, -1, 0);
+        two32(0x6e, -1, 1, -1);
+        two32(0x70, -1, -2, 1);
+        two32(0x70, -2, -1, -2);
+        two32(0x70, -1, MIN, MAX);
+        two32(0x70, MIN, MIN, 0);
+        two32(0x70, 7, -1, 7);
+        two32(0x70, -1, 1, 0);
         two32(0x71, 12, 10, 8);
         two32(0x72, 12, 10, 14);
         two32(0x73, 12, 10, 6);
@@ -132,6 +147,20 @@ public final class InstructionTest {
         two64(0x81, L, 7, 0, TRAP + 3);
         two64(0x82, L, -1, 10, 5);
         two64(0x82, L, 7, 0, TRAP + 3);
+        two64(0x80, L, -1, -2, 1);
+        two64(0x80, L, -2, -1, 0);
+        two64(0x80, L, -1, LEAST, 1);
+        two64(0x80, L, LEAST, LEAST, 1);
+        two64(0x80, L, 7, -1, 0);
+        two64(0x80, L, -1, 1, -1);
+        two64(0x80, L, -1, MOST, 2);
+        two64(0x82, L, -1, -2, 1);
+        two64(0x82, L, -2, -1, -2);
+        two64(0x82, L, -1, LEAST, MOST);
+        two64(0x82, L, LEAST, LEAST, 0);
+        two64(0x82, L, 7, -1, 7);
+        two64(0x82, L, -1, 1, 0);
+        two64(0x82, L, -1, MOST, 1);
         two64(0x83, L, 12, 10, 8);
         two64(0x84, L, 12, 10, 14);
         two64(0x85, L, 12, 10, 6);
@@ -142,6 +171,51 @@ public final class InstructionTest {
         two64(0x88, L, -1, 64, -1);
         two64(0x89, L, LEAST, 1, 1);
         two64(0x8a, L, 1, 65, LEAST);
+    }
+
+    /* The class must do without these functions of the library, and answer what they do. */
+    private static void asTheLibraryDoes() {
+        Random numbers = new Random(11);
+        for (int k = 0; k < 20; k++) {
+            Support.House narrow = pairHouse(I32, 0x6e, 0x70, 0x77, 0x78, 0x49);
+            Support.House wide = pairHouse(I64, 0x80, 0x82, 0x89, 0x8a, 0x54);
+            for (int n = 0; n < 20; n++) {
+                long a = someNumber(numbers);
+                long c = someNumber(numbers) | 1;
+                int x = (int) a;
+                int y = (int) c;
+                duePair(narrow, x, y, Integer.divideUnsigned(x, y), Integer.remainderUnsigned(x, y), Integer.rotateLeft(x, y),
+                        Integer.rotateRight(x, y), Integer.compareUnsigned(x, y) < 0 ? 1 : 0,
+                        Integer.numberOfLeadingZeros(x), Integer.numberOfTrailingZeros(x));
+                duePair(wide, a, c, Long.divideUnsigned(a, c), Long.remainderUnsigned(a, c), Long.rotateLeft(a, (int) c),
+                        Long.rotateRight(a, (int) c), Long.compareUnsigned(a, c) < 0 ? 1 : 0,
+                        Long.numberOfLeadingZeros(a), Long.numberOfTrailingZeros(a));
+            }
+        }
+    }
+
+    /* A function of two numbers: what each of five instructions makes of both, and two of the first one. */
+    private static Support.House pairHouse(int type, int... op) {
+        int leading = type == I32 ? 0x67 : 0x79;
+        return Support.one(new int[] {type, type}, new int[] {type, type, type, type, I32, type, type},
+                0x20, 0, 0x20, 1, op[0], 0x20, 0, 0x20, 1, op[1], 0x20, 0, 0x20, 1, op[2], 0x20, 0, 0x20, 1, op[3],
+                0x20, 0, 0x20, 1, op[4], 0x20, 0, leading, 0x20, 0, leading + 1).house();
+    }
+
+    private static void duePair(Support.House house, long a, long c, long... want) {
+        due("two numbers", house.call('a', 1, a, c), 0);
+        for (int k = 0; k < want.length; k++) {
+            due("result " + k + " of " + a + ", " + c, house.x.result(k), want[k]);
+        }
+    }
+
+    private static long someNumber(Random numbers) {
+        long any = numbers.nextLong();
+        return switch (numbers.nextInt(3)) {
+            case 0 -> any;
+            case 1 -> any >> numbers.nextInt(64);
+            default -> any >>> numbers.nextInt(64);
+        };
     }
 
     private static void conversions() {
