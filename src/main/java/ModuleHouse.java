@@ -879,7 +879,6 @@ public final class ModuleHouse {
                 int place = Math.min(k, PARTS);
                 globals.kind[place] = readValueType();
                 globals.first[place] = readFlag();
-                globals.number[place] = 0;
                 switch (readByte()) {
                     case I32_VALUE -> {
                         globals.second[place] = Types.I32;
