@@ -30,6 +30,8 @@ public final class EdgesOfCallTest {
         theRoomBehindATrap();
         theRoomBehindALoad();
         manyOfTheLeast();
+        twoThousandObjects();
+        numbersReferToNothing();
         Support.end();
     }
 
@@ -479,7 +481,71 @@ public final class EdgesOfCallTest {
         due("no room", house.call('a', 5), 11);
     }
 
-    /* 2000 objects of the least kind, and no more; and many more one after the other. */
+    /* 2000 objects of none, in the locals of 40 calls within one another; and one more. */
+    private static void twoThousandObjects() {
+        for (int more = 0; more <= 2; more++) {
+            Support.Mod mod = new Support.Mod();
+            mod.type(0x5f, 0);
+            mod.type(0x5f, 1, 0x6d, 1);
+            int type = mod.type(0x60, 1, I32, 0);
+            mod.global(b(0x6d), 1, 0xd0, 0x6d);
+            int[] fill = {};
+            for (int k = 1; k <= 50; k++) {
+                fill = b(fill, 0xfb, 1, 0, 0x21, k);
+            }
+            int[] behind = more == 0 ? NOTHING : b(0xfb, 1, 0, 0x1a);
+            mod.fnWith(type, b(1, 50, 0x6d), fill, 0x20, 0, 0x04, 0x40, 0x20, 0, 0x41, 1, 0x6b, 0x10, 0, 0x05, behind, 0x0b);
+            mod.fn(type, 0x23, 0, 0xfb, 0, 1, 0x24, 0);
+            mod.fn(type, 0xd0, 0x6d, 0x24, 0);
+            Support.House house = mod.house();
+            for (int round = 0; round < 3; round++) {
+                due("2000 and " + more, house.call('a', 100, 39), more == 0 ? 0 : 11);
+                due("none of them lives", house.x.look(7), 0);
+                due("1950 and some", house.call('a', 100, 38), 0);
+            }
+            for (int k = 0; k < 25; k++) {
+                due("a chain", house.call('b', 1, 0), 0);
+            }
+            due("of 25 objects of one", house.x.look(7), 50);
+            due("1950 beside it", house.call('a', 100, 38), more == 0 ? 0 : 11);
+            due("2000 beside it", house.call('a', 100, 39), 11);
+            due("the chain lives", house.x.look(7), 50);
+            due("let go", house.call('c', 1, 0), 0);
+            due("2000 and " + more + " again", house.call('a', 100, 39), more == 0 ? 0 : 11);
+            due("one object", house.call('b', 1, 0), 0);
+            due("it lives", house.x.look(7), 2);
+            house.feed(mod.build());
+            due("another load", house.x.load(), 0);
+            due("2000 and " + more + " behind it", house.call('a', 100, 39), more == 0 ? 0 : 11);
+        }
+    }
+
+    /* A number is no reference, whatever it is made by, and wherever it lies. */
+    private static void numbersReferToNothing() {
+        int[][] ones = {b(0x41, 1), b(0x42, 1), b(0x41, 0, 0x45), b(0x42, 0, 0x50), b(0x41, 2, 0x41, 2, 0x46), b(0x42, 2, 0x42, 2, 0x51), b(0x41, 2, 0x41, 1, 0x6b), b(0x42, 2, 0x42, 1, 0x7d), b(0x41, 1, 0x69), b(0x42, 1, 0x7b),
+            b(0x42, 1, 0xa7), b(0x41, 1, 0xac), b(0x41, 1, 0xc0), b(0xd0, 0x6d, 0xd1), b(0xd0, 0x6d, 0xd0, 0x6d, 0xd3), b(0xd0, 0x6d, 0xfb, 21, 0x6d), b(0x41, 1, 0xfb, 28, 0xfb, 29), b(0x41, 1, 0x41, 5, 0x41, 0, 0x1b, 0x41, 4, 0x6b)};
+        for (int k = 0; k < ones.length; k++) {
+            lives("a number on the stack " + k, 0, 2000, array(1500), 0x1a, ones[k], array(1999), KEEP, 0x1a);
+        }
+        Support.Mod mod = mod(array(1500), 0x1a, array(100), 0x1a, 0x41, 1, 0x24, 2, 0x41, 1, 0x21, 2, 0x41, 1, 0x41, 2, 0xfb, 8, 6, 2, 0x24, 3, array(1996), KEEP);
+        mod.type(0x5e, I32, 1);
+        mod.global(I, 1, 0x41, 1);
+        mod.global(b(0x6d), 1, 0xd0, 0x6d);
+        mod.bodies.set(0, withNumberLocal(mod.bodies.get(0)));
+        Support.House house = mod.house();
+        due("numbers in a global, a local, an array", house.call('a', 9), 0);
+        due("what lives", house.x.look(7), 2000);
+    }
+
+    /* The body's two groups of locals, and one of an i32 behind them. */
+    private static int[] withNumberLocal(int[] body) {
+        int from = body[0] >= 0x80 ? 2 : 1;
+        int[] rest = java.util.Arrays.copyOfRange(body, from + 6, body.length);
+        int[] made = b(3, 1, 0x6d, 1, 0x63, 0, 1, I32, rest);
+        return b(Support.u(made.length), made);
+    }
+
+    /* 999 objects of none in an array, and many more one after the other. */
     private static void manyOfTheLeast() {
         Support.Mod mod = new Support.Mod();
         mod.type(0x5f, 0);

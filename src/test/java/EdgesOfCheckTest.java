@@ -14,9 +14,11 @@ public final class EdgesOfCheckTest {
         sameFunctionTypes();
         sameTypesInLongRows();
         blockTypes();
+        lastBlockType();
         ifsWithoutElse();
         waysOut();
         waysOfALoop();
+        loopsToAnotherType();
         waysOfARow();
         hundredValues();
         hundredValuesByEveryInstruction();
@@ -259,6 +261,20 @@ public final class EdgesOfCheckTest {
         }
     }
 
+    /* Of 64 types each can be a block's. */
+    private static void lastBlockType() {
+        for (int number : new int[] {15, 16, 17, 40, 62, 63}) {
+            Support.Mod mod = new Support.Mod();
+            for (int k = 0; k < 64; k++) {
+                mod.type(0x60, 0, k == number ? b(1, I64) : b(0));
+            }
+            mod.fn(number, 0x02, Support.s(number), 0x42, 5, 0x0b);
+            due("block type " + number, mod.loaded(), 0);
+            mod.fn(0, 0x02, Support.s(number), 0x0b);
+            due("without its result " + number, mod.loaded(), -2);
+        }
+    }
+
     /* "(without it its parameters and results must be the same types)". */
     private static void ifsWithoutElse() {
         int[][] types = {NOTHING, b(I32), b(I64), b(0x6d), b(0x6c), b(0x63, 0), b(0x63, 1), b(0x64, 0), b(0x63, 0x6d)};
@@ -308,6 +324,25 @@ public final class EdgesOfCheckTest {
         good("an if takes its results", ONE, 0x41, 0, 0x04, I32, 0x41, 0, 0x0c, 0, 0x05, 0x41, 0, 0x0c, 0, 0x0b);
         bad("an if without them", ONE, 0x41, 0, 0x04, I32, 0x0c, 0, 0x05, 0x41, 0, 0x0b);
         bad("an else without them", ONE, 0x41, 0, 0x04, I32, 0x41, 0, 0x05, 0x0c, 0, 0x0b);
+    }
+
+    /* A loop from an i32 to an i64: ways to it take and leave the i32, its end leaves the i64. */
+    private static void loopsToAnotherType() {
+        Object[][] goods = {{0xac}, {0x41, 0, 0x0d, 0, 0xac}, {0xd0, 0x6d, 0xd5, 0, 0x1a, 0xac}, {0x0c, 0}, {0x41, 0, 0x0e, 1, 0, 0}, {0xac, 0x0c, 1}};
+        Object[][] bads = {{}, {0x41, 0, 0x0d, 0}, {0xd0, 0x6d, 0xd5, 0, 0x1a}, {0xac, 0x0c, 0}, {0xac, 0x41, 0, 0x0e, 1, 0, 0}, {0xac, 0x41, 0, 0x0d, 0}, {0xac, 0xd0, 0x6d, 0xd5, 0, 0x1a}, {0x0c, 1}, {0x41, 0, 0x0e, 1, 0, 1}, {0xac, 0x41, 0, 0x0e, 1, 1, 0}};
+        for (Object[] code : goods) {
+            due("good in the loop", loopTo(code), 0);
+        }
+        for (Object[] code : bads) {
+            due("bad in the loop", loopTo(code), -2);
+        }
+    }
+
+    private static int loopTo(Object... code) {
+        Support.Mod mod = kinds();
+        int type = mod.type(0x60, 1, I32, 1, I64);
+        mod.fn(type, 0x20, 0, 0x03, type, b(code), 0x0b, 0x42, 1, 0x7c);
+        return mod.loaded();
     }
 
     /* "for 0x0e all the ends must take as many, and what is there must fit each". */

@@ -29,6 +29,8 @@ public final class EdgesOfFaceTest {
         globalsHaveBounds();
         bytesHaveBounds();
         bytesOfPagesThatCame();
+        callsThatThrowChangeNothing();
+        anErrorLeavesNoInstance();
         aLoadLeavesNothingOfBefore();
         aLoadLeavesNoNumbersOfBefore();
         looksWithoutAnInstance();
@@ -505,6 +507,58 @@ public final class EdgesOfFaceTest {
         house.feed(Support.HEAD);
         house.x.load();
         dueThrow("the next has none", () -> house.x.at(0), Support.NO_SUCH);
+    }
+
+    private static String seen(Support.House house) {
+        StringBuilder all = new StringBuilder();
+        for (int what = 0; what <= 10; what++) {
+            all.append(house.x.look(what)).append(' ');
+        }
+        for (int k = -1; k <= 6; k++) {
+            int at = k;
+            all.append(Support.said(() -> house.x.result(at))).append(' ').append(Support.said(() -> house.x.at(at))).append(' ');
+        }
+        return all.toString();
+    }
+
+    /* "a call that throws changes nothing": whatever can be seen is as before. */
+    private static void callsThatThrowChangeNothing() {
+        Support.House house = full().house();
+        house.call('a', 9);
+        house.x.feed(7, 'a');
+        for (int k = 0; k < 16; k++) {
+            house.x.give(k);
+        }
+        String before = seen(house);
+        dueThrow("feed", () -> house.x.feed(9, 0), Support.ARGUMENT);
+        dueThrow("give", () -> house.x.give(0), Support.STATE);
+        dueThrow("call", () -> house.x.call(-1), Support.ARGUMENT);
+        dueThrow("result", () -> house.x.result(6), Support.NO_SUCH);
+        dueThrow("global", () -> house.x.global(0), Support.NO_SUCH);
+        dueThrow("at", () -> house.x.at(-1), Support.NO_SUCH);
+        dueThrow("look", () -> house.x.look(11), Support.ARGUMENT);
+        Support.dueText("all of it", seen(house), before);
+    }
+
+    /* "an error, and there is no instance": also if all but the code could be one. */
+    private static void anErrorLeavesNoInstance() {
+        int[][] wrong = {b(0x1a), b(0x06), b(0xfd)};
+        int[] errors = {-2, -1, -3};
+        for (int k = 0; k < wrong.length; k++) {
+            Support.Mod mod = new Support.Mod().memory(0, 1).table(0, 1).data(0, 7);
+            mod.global(I, 1, 0x41, 5);
+            mod.exports.add(b(1, 'g', 3, 0));
+            mod.fn(mod.type(0x60, 0, 0), NOTHING);
+            mod.fn(0, wrong[k]);
+            Support.House house = mod.house();
+            due("the error", house.loaded, errors[k]);
+            dueThrow("no global", () -> house.x.global(0), Support.NO_SUCH);
+            dueThrow("no byte", () -> house.x.at(0), Support.NO_SUCH);
+            due("no function", house.call('a', 5), -1);
+            for (int what = 0; what <= 10; what++) {
+                due("look " + what, house.x.look(what), 0);
+            }
+        }
     }
 
     /** More of all than the modules behind it have; the error makes it one that can be read, but is not right. */

@@ -11,6 +11,7 @@ public final class EdgesOfReadTest {
         everyCutOfAWholeModule();
         everySectionsEnd();
         greatestAndLeastNumbers();
+        bytesAreNoNumbers();
         sectionNumbers();
         sectionOrder();
         sectionZero();
@@ -312,6 +313,30 @@ public final class EdgesOfReadTest {
         due("the least block type is a type", body(0x02, 0x00, 0x0b), 0);
     }
 
+    /* Where a byte must stand, the same in two bytes, as a U could be, can't be read. */
+    private static void bytesAreNoNumbers() {
+        int[] head = Arrays.copyOfRange(Support.HEAD, 1, 8);
+        due("the first byte", Support.loaded(b(0x80, 0x00, head)), -1);
+        due("the last byte", Support.loaded(b(Arrays.copyOf(Support.HEAD, 7), 0x80, 0x00)), -1);
+        due("a section's number", loaded(0x81, 0x00, 1, 0), -1);
+        due("section 0", loaded(0x80, 0x00, 1, 0), -1);
+        due("a type's kind", loaded(section(1, 1, 0xe0, 0x00, 0, 0)), -1);
+        due("a parameter", loaded(section(1, 1, 0x60, 1, 0xff, 0x00, 0)), -1);
+        due("a field", loaded(section(1, 1, 0x5f, 1, 0xff, 0x00, 0)), -1);
+        due("8 bits", loaded(section(1, 1, 0x5f, 1, 0xf8, 0x00, 0)), -1);
+        due("a field's flag", loaded(section(1, 1, 0x5f, 1, 0x7f, 0x80, 0x00)), -1);
+        due("a field that can be set", loaded(section(1, 1, 0x5f, 1, 0x7f, 0x81, 0x00)), -1);
+        due("a table's kind", loaded(section(4, 1, 0xf0, 0x00, 0, 1)), -1);
+        due("limits", loaded(section(5, 1, 0x80, 0x00, 1)), -1);
+        due("a global's flag", loaded(section(6, 1, 0x7f, 0x80, 0x00, 0x41, 0, 0x0b)), -1);
+        due("a global's instruction", loaded(section(6, 1, 0x7f, 0, 0xc1, 0x00, 0, 0x0b)), -1);
+        due("a global's end", loaded(section(6, 1, 0x7f, 0, 0x41, 0, 0x8b, 0x00)), -1);
+        due("an export's kind", export(1, 1, 'a', 0x80, 0x00, 0), -1);
+        due("a null's target", body(0xd0, 0xed, 0x00, 0x1a), -2);
+        due("an instruction", body(0x81, 0x00), -2);
+        due("a block type of nothing", body(0x02, 0xc0, 0x00, 0x0b), -2);
+    }
+
     /* "Number 0 .. The others: 1, 3 to 11 (any other number is malformed)". */
     private static void sectionNumbers() {
         for (int number = 0; number < 256; number++) {
@@ -418,6 +443,8 @@ public final class EdgesOfReadTest {
         due("65 exports, the last can't be read", loaded(section(7, 65, Support.many(64, 0, 0, 0), 0, 4, 0)), -1);
         due("65 elements, the last can't be read", loaded(section(9, 65, Support.many(64, 0, 0x41, 0, 0x0b, 0), 1, 0x41, 0, 0x0b, 0)), -1);
         due("65 data, the last can't be read", loaded(section(11, 65, Support.many(64, 0, 0x41, 0, 0x0b, 0), 0, 0x41, 0, 0x0b, 1)), -1);
+        due("a 65th type of 100 fields", loaded(section(1, 65, Support.many(64, 0x5f, 0), 0x5f, 100, Support.many(100, 0x78, 1))), -2);
+        due("a 66th type of 100 parameters and results", loaded(section(1, 66, Support.many(65, 0x5f, 0), 0x60, 100, Support.many(100, 0x7f), 100, Support.many(100, 0x7f))), -2);
         due("201 locals, then what can't be read", loaded(oneFunction(), section(10, 1, 6, 1, 0xc9, 0x01, 0x7f, 0x06, 0x0b)), -1);
         due("201 locals, then what is refused", loaded(oneFunction(), section(10, 1, 6, 1, 0xc9, 0x01, 0x7f, 0x43, 0x0b)), -3);
     }
@@ -564,8 +591,13 @@ public final class EdgesOfReadTest {
                 due("export of kind " + kind + ", number " + number, export(1, 1, 'a', kind, number), want);
             }
         }
+        int[][] parts = {b(oneFunction()), section(4, 1, 0x70, 0, 9), section(5, 1, 0, 9), section(6, 1, 0x7f, 0, 0x41, 0, 0x0b)};
         for (int kind = 0; kind <= 3; kind++) {
             due("nothing of kind " + kind, loaded(section(7, 1, 1, 'a', kind, 0)), -2);
+            for (int only = 0; only <= 3; only++) {
+                int[] body = only == 0 ? section(10, 1, 2, 0, 0x0b) : NOTHING;
+                due("kind " + kind + " where only " + only + " is", loaded(parts[only], section(7, 1, 1, 'a', kind, 0), body), kind == only ? 0 : -2);
+            }
         }
     }
 
@@ -750,6 +782,8 @@ public final class EdgesOfReadTest {
         due("the same name, then refused", loaded(oneFunction(), section(7, 2, 0, 0, 0, 0, 0, 0), section(10, 1, 3, 0, 0x43, 0x0b)), -3);
         due("no table, then malformed", loaded(section(9, 1, 0, 0x41, 0, 0x0b, 0), section(10, 1, 2, 0, 0x06)), -1);
         due("refused in a body that ends too late", loaded(oneFunction(), section(10, 1, 4, 0, 0x43, 0x0b, 0x0b)), -3);
+        due("refused in the first of many bodies, which are not there", loaded(oneFunction(), section(10, 0xff, 0x01, 3, 0, 0x43, 0x0b)), -3);
+        due("malformed in the first of many bodies, then refused", loaded(oneFunction(), section(10, 2, 3, 0, 0x06, 0x0b, 3, 0, 0x43, 0x0b)), -1);
         due("malformed numbers ahead of what is refused", body(0x41, 0x80, 0x80, 0x80, 0x80, 0x10, 0x43), -1);
     }
 }

@@ -29,6 +29,9 @@ public final class EdgesOfRunTest {
         memoryOf16Pages();
         morePages();
         newPagesAreZeros();
+        waysOnNull();
+        waysOnNullWithValues();
+        sameReferences();
         nullTraps();
         fieldsOfBits();
         elementsOfBits();
@@ -42,6 +45,7 @@ public final class EdgesOfRunTest {
         dataComeToTheirPlaces();
         afterATrapTheInstanceStays();
         theFirstCall();
+        sixtyFourOfAll();
         Support.end();
     }
 
@@ -506,6 +510,49 @@ public final class EdgesOfRunTest {
         return mod.house().value();
     }
 
+    private static final int[][] REFERENCES = {b(0xd0, 0x6d), b(0xd0, 0x6c), b(0xd0, 0), b(0xfb, 1, 0), b(0xfb, 8, 3, 0), b(0x41, 0, 0xfb, 28), b(0x41, 0x7f, 0xfb, 28)};
+
+    /* "0xd5 U: if the top reference is null it goes, and on to the block's end ..; else it stays", "0xd6 U: if it is not null, as 0x0c, with it ..; else it goes". */
+    private static void waysOnNull() {
+        for (int k = 0; k < REFERENCES.length; k++) {
+            boolean isNull = k < 3;
+            int[] given = b(REFERENCES[k], 0xfb, 23, 0x6d);
+            due("is null, " + k, object(given, 0xd1), isNull ? 1 : 0);
+            due("0xd4 of " + k, object(given, 0xd4, 0xd1), isNull ? TRAP + 8 : 0);
+            due("0xd5 of " + k, object(0x02, 0x40, given, 0xd5, 0, 0xd1, 0x0f, 0x0b, 0x41, 5), isNull ? 5 : 0);
+            due("0xd5 out of two of " + k, object(0x02, 0x40, 0x02, 0x40, given, 0xd5, 1, 0xd1, 0x0f, 0x0b, 0x41, 6, 0x0f, 0x0b, 0x41, 5), isNull ? 5 : 0);
+            due("0xd6 of " + k, object(0x02, 0x64, 0x6d, given, 0xd6, 0, 0x41, 5, 0x0f, 0x0b, 0xd1), isNull ? 5 : 0);
+            due("0xd6 out of two of " + k, object(0x02, 0x64, 0x6d, 0x02, 0x40, given, 0xd6, 1, 0x0b, 0x41, 5, 0x0f, 0x0b, 0xd1), isNull ? 5 : 0);
+            due("0xd5 out of the function of " + k, object(0x41, 7, given, 0xd5, 0, 0x1a, 0x1a, 0x41, 8), isNull ? 7 : 8);
+        }
+    }
+
+    /* What is taken along, and what lies below and goes. */
+    private static void waysOnNullWithValues() {
+        for (int k = 0; k < REFERENCES.length; k++) {
+            boolean isNull = k < 3;
+            int[] given = b(REFERENCES[k], 0xfb, 23, 0x6d);
+            due("0xd5 of " + k, object(Support.i32(100), 0x02, I32, 0x42, 9, 0x41, 7, given, 0xd5, 0, 0x1a, 0x21, 0, 0x1a, 0x20, 0, 0x41, 1, 0x6a, 0x0b, 0x6a), isNull ? 107 : 108);
+            Support.Mod mod = objects();
+            int pair = mod.type(0x60, 0, 2, I32, 0x6d);
+            mod.fn(mod.type(0x60, 0, 1, I32), Support.i32(100), 0x02, pair, 0x42, 9, 0x41, 7, given, 0xd6, 0, 0x1a, 0x1a, 0x41, 8, 0xd0, 0x6d, 0x0b, 0xd1, 0x41, 50, 0x6c, 0x6a, 0x6a);
+            due("0xd6 of " + k, mod.house().value(), isNull ? 158 : 107);
+        }
+    }
+
+    /* "whether two references are the same object, the same small number, or both null". */
+    private static void sameReferences() {
+        for (int first = 0; first < REFERENCES.length; first++) {
+            for (int second = 0; second < REFERENCES.length; second++) {
+                boolean same = first < 3 && second < 3 || first == second && first > 4;
+                due("the same, " + first + ", " + second, object(REFERENCES[first], REFERENCES[second], 0xd3), same ? 1 : 0);
+            }
+        }
+        due("one object", object(0xfb, 1, 0, 0x22, 1, 0x20, 1, 0xd3), 1);
+        due("two of a kind", object(0xfb, 1, 6, 0xfb, 1, 6, 0xd3), 0);
+        due("one array", object(0xfb, 8, 3, 0, 0x22, 4, 0x20, 4, 0xd3), 1);
+    }
+
     /* "Trap 8 if a reference is null": each instruction that takes one. */
     private static void nullTraps() {
         int[][] traps = {b(0xd0, 0x6d, 0xd4, 0x1a), b(0xd0, 0, 0xd4, 0x1a), b(0xd0, 0, 0xfb, 2, 0, 2, 0x1a), b(0xd0, 0, 0xfb, 3, 0, 0, 0x1a), b(0xd0, 0, 0xfb, 4, 0, 1, 0x1a),
@@ -787,6 +834,53 @@ public final class EdgesOfRunTest {
             due("it can be called", house.call('b', 1), 0);
             due("its result", house.x.result(0), trap == 5 || trap == 2 ? 1 : 2);
         }
+    }
+
+    /* Each of 64 types, functions, globals, exports, elements and data is its own. */
+    private static void sixtyFourOfAll() {
+        Support.Mod mod = new Support.Mod().table(0, 64).memory(0, 1);
+        for (int k = 0; k < 64; k++) {
+            mod.type(0x60, k % 16, Support.many(k % 16, I32), 1, k < 32 ? I32 : I64);
+            mod.global(k < 32 ? I : L, 1, k < 32 ? Support.i32(200 + k) : Support.i64(200 + k));
+            mod.functions.add(b(k));
+            int[] body = b(0, k % 16 == 0 ? k < 32 ? Support.i32(300 + k) : Support.i64(300 + k) : b(0x20, k % 16 - 1, k < 32 ? NOTHING : b(0xac)), 0x23, k, k < 32 ? 0x6a : 0x7c, 0x0b);
+            mod.bodies.add(b(Support.u(body.length), body));
+            mod.export(k + 32, k % 2 == 0 ? 0 : 3, k);
+            mod.element(63 - k, k);
+            mod.data(2 * k, k + 1);
+        }
+        Support.House house = mod.house();
+        due("all of 64", house.loaded, 0);
+        for (int k = 0; k < 64; k++) {
+            due("data " + k, house.x.at(2 * k), k + 1);
+            due("nothing behind it", house.x.at(2 * k + 1), 0);
+            if (k % 2 == 1) {
+                due("global " + k, house.x.global(k), 200 + k);
+                continue;
+            }
+            long[] arguments = new long[k % 16];
+            for (int n = 0; n < arguments.length; n++) {
+                arguments[n] = 10 * k + n;
+            }
+            due("function " + k, house.call(k + 32, 1, arguments), 0);
+            due("its result", house.x.result(0), (k % 16 == 0 ? 300 + k : 10 * k + k % 16 - 1) + 200 + k);
+        }
+        Support.Mod table = new Support.Mod().table(0, 64);
+        int number = table.type(0x60, 0, 1, I32);
+        table.fn(table.type(0x60, 1, I32, 1, I32), 0x20, 0, 0x11, number, 0);
+        for (int k = 1; k < 64; k++) {
+            table.functions.add(b(number));
+            int[] body = b(0, Support.i32(500 + k), 0x0b);
+            table.bodies.add(b(Support.u(body.length), body));
+        }
+        for (int k = 0; k < 64; k++) {
+            table.element(k, 63 - k);
+        }
+        Support.House places = table.house();
+        for (int k = 0; k < 63; k++) {
+            due("place " + k, places.value(k), 563 - k);
+        }
+        due("the last place has another type", places.value(63), TRAP + 7);
     }
 
     /* "then the function of 8 is called, with 1000 TURNS". */
