@@ -214,11 +214,11 @@ public final class RoomTest {
         mod.fn(two, slots, 0x20, 0, 0xd0, 0x6d, 0xfb, 14, 0);
         mod.fn(two, slots, 0x20, 0, slot0, 0x20, 1, 0xfb, 11, 0, 0xfb, 14, 0);
         Random random = new Random(7);
-        for (int round = 0; round < 20; round++) {
+        for (int round = 0; round < 30; round++) {
             Support.House house = mod.house();
             house.call('a', 5, 0);
             Node root = new Node(16);
-            for (int step = 0; step < 120; step++) {
+            for (int step = 0; step < 80; step++) {
                 modelStep(house, root, random);
             }
         }
